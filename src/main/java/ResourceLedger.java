@@ -249,7 +249,15 @@ public final class ResourceLedger {
         }
         Program draft = state.programs[state.moduleCount + 1];
         draft.lay(t.bytes);
-        int fault = faultOf(draft, t);
+        int fault = reader.read(draft);
+        t.place = reader.place;
+        if (fault == 0) {
+            fault = misfitOf(draft, t);
+        }
+        if (fault == 0) {
+            fault = looker.look(draft);
+            t.place = looker.place;
+        }
         if (fault != 0) {
             t.end(FAULTY, fault, gas);
         } else if (state.placeCount() >= PLACES_MOST) {
@@ -260,12 +268,8 @@ public final class ResourceLedger {
         }
     }
 
-    private int faultOf(Program draft, Transaction t) {
-        int fault = reader.read(draft);
-        t.place = reader.place;
-        if (fault != 0) {
-            return fault;
-        }
+    /** Faults 21 to 25: how a module that can be read fits to those that are there. */
+    private int misfitOf(Program draft, Transaction t) {
         t.place = 4;
         if (draft.number == 0 || state.findProgram(draft.number) != null) {
             return 21;
@@ -284,12 +288,7 @@ public final class ResourceLedger {
         }
         draft.measure(state);
         t.place = draft.deepStructure();
-        if (t.place >= 0) {
-            return 25;
-        }
-        fault = looker.look(draft);
-        t.place = looker.place;
-        return fault;
+        return t.place >= 0 ? 25 : 0;
     }
 
     public int told(int t, int what) {
@@ -577,16 +576,13 @@ public final class ResourceLedger {
             }
         }
 
-        // Foreign functions are read before it is known how many own ones there are: fixed rows.
-        static int foreignRow(int k) {
-            return FUNCTIONS_MOST + k;
-        }
-
+        // Foreign functions are read before it is known how many own ones there are, so their rows
+        // begin behind the most own ones that there can be.
         int functionColumn(int f, int column) {
             if (f < 0 || f >= ownFunctions + foreignFunctions) {
                 return 0;
             }
-            int row = f < ownFunctions ? f : foreignRow(f - ownFunctions);
+            int row = f < ownFunctions ? f : FUNCTIONS_MOST + f - ownFunctions;
             return functionRows[row * FUNCTION_ROW + column];
         }
 
@@ -654,7 +650,11 @@ public final class ResourceLedger {
         }
 
         static int head(long t) {
-            return (int) (t >>> headShift(t)) & 255;
+            int shift = 56;
+            while (shift > 0 && t >>> shift == 0) {
+                shift -= 8;
+            }
+            return (int) (t >>> shift) & 255;
         }
 
         static boolean isReference(long t) {
@@ -679,14 +679,15 @@ public final class ResourceLedger {
         }
 
         int abilities(long t) {
-            if (isReference(t)) {
+            int head = head(t);
+            if (head >= REFERENCE) {
                 return COPY | DROP;
             }
             int own = COPY | DROP | STORE;
             if (endsInStructure(t)) {
                 own = structureColumn((int) t & 255, ABILITIES);
             }
-            return head(t) == VECTOR ? own & ~KEY : own;
+            return head == VECTOR ? own & ~KEY : own;
         }
 
         boolean givesPlain(int f) {
@@ -821,33 +822,27 @@ public final class ResourceLedger {
             p = program;
             fault = 0;
             place = 0;
-            judging = false;
-            readAll();
-            if (fault == 0) {
-                judging = true;
-                readAll();
+            for (int pass = 0; pass < 2 && fault == 0; pass++) {
+                judging = pass == 1;
+                at = 0;
+                told = 0;
+                p.clear();
+                readBeginning();
+                readStructures();
+                readForeignStructures();
+                readForeignFunctions();
+                p.firstElement = p.typeCount;
+                p.elementCount = readNumber(0, 32);
+                readTypes(p.elementCount, false);
+                readFunctions();
+                if (at < p.length) {
+                    fail(6, at);
+                }
             }
             if (fault == 0) {
                 findRound();
             }
             return fault;
-        }
-
-        private void readAll() {
-            at = 0;
-            told = 0;
-            p.clear();
-            readBeginning();
-            readStructures();
-            readForeignStructures();
-            readForeignFunctions();
-            p.firstElement = p.typeCount;
-            p.elementCount = readNumber(0, 32);
-            readTypes(p.elementCount, false);
-            readFunctions();
-            if (at < p.length) {
-                fail(6, at);
-            }
         }
 
         private void fail(int why, int where) {
@@ -862,10 +857,11 @@ public final class ResourceLedger {
                 return 0;
             }
             if (at >= p.length) {
-                fail(2, p.length);
+                fault = 2;
+                place = p.length;
                 return 0;
             }
-            return p.at(at++);
+            return p.bytes[at++] & 255;
         }
 
         private int readShort() {
@@ -923,7 +919,7 @@ public final class ResourceLedger {
         private void readForeignFunctions() {
             p.foreignFunctions = readNumber(0, Program.FOREIGN_MOST);
             for (int k = 0; k < p.foreignFunctions && fault == 0; k++) {
-                int row = Program.foreignRow(k);
+                int row = Program.FUNCTIONS_MOST + k;
                 p.setFunction(row, Program.FUNCTION_HOME, readShort());
                 p.setFunction(row, Program.FUNCTION_NUMBER, readByte());
                 p.setFunction(row, Program.FLAGS, readNumber(0, 7));
@@ -994,7 +990,15 @@ public final class ResourceLedger {
                 fail(4, where);
             }
             t = t << 8 | b;
-            return b == STRUCTURE ? t << 8 | readJudged(p.allStructures, 7) : t;
+            if (b != STRUCTURE) {
+                return t;
+            }
+            where = at;
+            int s = readByte();
+            if (judging && s >= p.allStructures) {
+                fail(7, where);
+            }
+            return t << 8 | s;
         }
 
         private int readJudged(int bound, int why) {
@@ -1097,7 +1101,9 @@ public final class ResourceLedger {
         private final long[] stackOrigins = new long[STACK_MOST];
         private final boolean[] stackInside = new boolean[STACK_MOST];
         private int depth;
+        private final long[] localType = new long[LOCALS_MOST];
         private final long[] localOrigins = new long[LOCALS_MOST];
+        private long droppable;
         private long there;
         private long inside;
         private long takenOrigins;
@@ -1133,21 +1139,26 @@ public final class ResourceLedger {
         private void prepare(int f) {
             function = f;
             int count = Math.min(p.instructions(f), CODE_MOST);
-            Arrays.fill(target, false);
-            Arrays.fill(reached, false);
+            for (int i = 0; i < count; i++) {
+                target[i] = false;
+                reached[i] = false;
+            }
             for (int i = 0; i < count; i++) {
                 int where = p.instructionPlace(f, i);
                 int to = (int) p.numberAt(where + 1, 2);
-                if (p.at(where) >= 2 && p.at(where) <= 4 && to < CODE_MOST) {
+                if (p.at(where) >= 2 && p.at(where) <= 4 && to < count) {
                     target[to] = true;
                 }
             }
             depth = 0;
             inside = 0;
             there = (1L << p.takes(f)) - 1;
+            droppable = 0;
             for (int k = 0; k < LOCALS_MOST; k++) {
-                boolean lent = k < p.takes(f) && Program.isReference(p.takenType(f, k));
-                localOrigins[k] = lent ? 1L << (40 + k) : 0;
+                long t = k < p.localCount(f) ? p.localType(f, k) : TRUTH;
+                localType[k] = t;
+                localOrigins[k] = k < p.takes(f) && Program.isReference(t) ? 1L << (40 + k) : 0;
+                droppable |= (p.abilities(t) & DROP) != 0 ? 1L << k : 0;
             }
             flowing = true;
             if (target[0]) {
@@ -1179,14 +1190,16 @@ public final class ResourceLedger {
             int op = p.at(where);
             int a = p.at(where + 1);
             int b = p.at(where + 2);
-            if (op <= 4 || op == 45) {
+            if (op == 1) {
+                giveBack();
+            } else if (op <= 4 || op == 45) {
                 steer(op);
             } else if (op <= 10 || op == 35 || op == 46) {
                 set(op);
             } else if (op <= 13) {
-                useLocal(op, a);
+                useLocal(op, Math.min(a, LOCALS_MOST - 1));
             } else if (op <= 15) {
-                borrowLocal(op == 15, a);
+                borrowLocal(op == 15, Math.min(a, LOCALS_MOST - 1));
             } else if (op <= 20) {
                 refer(op, a, b);
             } else if (op <= 22) {
@@ -1239,8 +1252,7 @@ public final class ResourceLedger {
                 System.arraycopy(localOrigins, 0, keptOrigins, from, LOCALS_MOST);
                 return;
             }
-            long one = there ^ keptThere[to];
-            if (!allDrop(one)) {
+            if (((there ^ keptThere[to]) & ~droppable) != 0) {
                 fail(9);
             }
             keptThere[to] &= there;
@@ -1252,7 +1264,8 @@ public final class ResourceLedger {
         }
 
         private void comeBack(int to) {
-            boolean fits = (keptThere[to] & ~there) == 0 && allDrop(there & ~keptThere[to])
+            boolean fits = (keptThere[to] & ~there) == 0
+                && (there & ~keptThere[to] & ~droppable) == 0
                 && (inside & keptThere[to] & ~keptInside[to]) == 0;
             for (int k = 0; k < LOCALS_MOST; k++) {
                 boolean both = (keptThere[to] >>> k & 1) != 0;
@@ -1263,15 +1276,6 @@ public final class ResourceLedger {
             if (!fits) {
                 fail(9);
             }
-        }
-
-        private boolean allDrop(long some) {
-            for (int k = 0; k < LOCALS_MOST; k++) {
-                if ((some >>> k & 1) != 0 && !has(p.localType(function, k), DROP)) {
-                    return false;
-                }
-            }
-            return true;
         }
 
         private boolean has(long t, int ability) {
@@ -1349,7 +1353,7 @@ public final class ResourceLedger {
             }
             for (int k = 0; k < LOCALS_MOST; k++) {
                 if ((localOrigins[k] & origin) != 0
-                        && (!writing || writes(p.localType(function, k)))) {
+                        && (!writing || writes(localType[k]))) {
                     return true;
                 }
             }
@@ -1364,27 +1368,18 @@ public final class ResourceLedger {
             }
             for (int k = 0; k < LOCALS_MOST; k++) {
                 if ((localOrigins[k] & origins) != 0
-                        && ((inside >>> k & 1) != 0 || !writes(p.localType(function, k)))) {
+                        && ((inside >>> k & 1) != 0 || !writes(localType[k]))) {
                     return false;
                 }
             }
             return true;
         }
 
-        private void failUnlessSole() {
-            if (!isSole(takenOrigins)) {
-                fail(6);
-            }
-        }
-
         private void steer(int op) {
             if (op == 0) {
-                long t = take();
-                if (!has(t, DROP)) {
+                if (!has(take(), DROP)) {
                     fail(4);
                 }
-            } else if (op == 1) {
-                giveBack();
             } else if (op == 45) {
                 takeOnly(LONG);
             } else {
@@ -1410,7 +1405,7 @@ public final class ResourceLedger {
             if (!lent) {
                 fail(14);
             }
-            if (!allDrop(there)) {
+            if ((there & ~droppable) != 0) {
                 fail(13);
             }
         }
@@ -1440,7 +1435,7 @@ public final class ResourceLedger {
         }
 
         private void useLocal(int op, int k) {
-            long t = p.localType(function, k);
+            long t = localType[k];
             boolean plain = !Program.isReference(t);
             if (op == 13) {
                 takeOnly(t);
@@ -1477,7 +1472,7 @@ public final class ResourceLedger {
         }
 
         private void borrowLocal(boolean writing, int k) {
-            long t = p.localType(function, k);
+            long t = localType[k];
             if (!isThere(k)) {
                 fail(5);
             }
@@ -1502,22 +1497,18 @@ public final class ResourceLedger {
                 }
                 put(t);
             } else if (op == 19) {
-                overwrite();
+                long t = takeReference(true);
+                long origins = takenOrigins;
+                takeOnly(t);
+                if ((p.abilities(t) & DROP) == 0) {
+                    fail(4);
+                }
+                if (!isSole(origins)) {
+                    fail(6);
+                }
             } else {
                 long t = takeReference(true);
                 putReference(Program.prefixed(REFERENCE, t), takenOrigins, takenInside);
-            }
-        }
-
-        private void overwrite() {
-            long t = takeReference(true);
-            long origins = takenOrigins;
-            takeOnly(t);
-            if (!has(t, DROP)) {
-                fail(4);
-            }
-            if (!isSole(origins)) {
-                fail(6);
             }
         }
 
@@ -1654,8 +1645,8 @@ public final class ResourceLedger {
                 takeOnly(t);
             }
             takeReferenceTo(vector, op >= 55);
-            if (op >= 56) {
-                failUnlessSole();
+            if (op >= 56 && !isSole(takenOrigins)) {
+                fail(6);
             }
             if (op == 53) {
                 put(LONG);
@@ -1747,7 +1738,19 @@ public final class ResourceLedger {
             high[b] = upper;
         }
 
-        int sizeOf(int node, int depth) {
+        int sizeOf(int node) {
+            return sizeAt(node, 0);
+        }
+
+        int copyOf(int node) {
+            return copyAt(node, 0);
+        }
+
+        boolean areAlike(int a, int b) {
+            return alikeAt(a, b, 0);
+        }
+
+        private int sizeAt(int node, int depth) {
             if (kind[node] == COIN) {
                 return 2;
             }
@@ -1755,14 +1758,14 @@ public final class ResourceLedger {
             if (holdsOthers(kind[node]) && depth < DEPTH_MOST) {
                 int c = (int) low[node];
                 for (long k = 0; k < high[node] && c != 0; k++) {
-                    size += sizeOf(c, depth + 1);
+                    size += sizeAt(c, depth + 1);
                     c = next[c];
                 }
             }
             return size;
         }
 
-        int copyOf(int node, int depth) {
+        private int copyAt(int node, int depth) {
             int made = make(kind[node], high[node], low[node]);
             if (!holdsOthers(kind[node]) || depth >= DEPTH_MOST) {
                 return made;
@@ -1771,7 +1774,7 @@ public final class ResourceLedger {
             int last = 0;
             low[made] = 0;
             for (long k = 0; k < high[node] && c != 0; k++) {
-                int d = copyOf(c, depth + 1);
+                int d = copyAt(c, depth + 1);
                 if (last == 0) {
                     low[made] = d;
                 } else {
@@ -1783,7 +1786,7 @@ public final class ResourceLedger {
             return made;
         }
 
-        boolean alike(int a, int b, int depth) {
+        private boolean alikeAt(int a, int b, int depth) {
             if (kind[a] != kind[b] || high[a] != high[b]) {
                 return false;
             }
@@ -1793,7 +1796,7 @@ public final class ResourceLedger {
             int c = (int) low[a];
             int d = (int) low[b];
             for (long k = 0; k < high[a] && depth < DEPTH_MOST && c != 0 && d != 0; k++) {
-                if (!alike(c, d, depth + 1)) {
+                if (!alikeAt(c, d, depth + 1)) {
                     return false;
                 }
                 c = next[c];
@@ -1802,8 +1805,12 @@ public final class ResourceLedger {
             return true;
         }
 
-        /** Writes a value into the state's rows, each node before its children: one behind last. */
-        int store(int node, State state, int to, int depth) {
+        /** Writes a value into a slot of the state, each node before its children: how many. */
+        int store(int node, State state, int slot) {
+            return storeNode(node, state, slot * SIZE_MOST, 0) - slot * SIZE_MOST;
+        }
+
+        private int storeNode(int node, State state, int to, int depth) {
             if (to >= state.nodeKind.length || depth > DEPTH_MOST) {
                 slips++;
                 return to;
@@ -1814,7 +1821,7 @@ public final class ResourceLedger {
             state.nodeLow[to] = inner ? 0 : low[node];
             int end = to + 1;
             for (int i = 0; inner && i < high[node]; i++) {
-                end = store(child(node, i), state, end, depth + 1);
+                end = storeNode(child(node, i), state, end, depth + 1);
             }
             return end;
         }
@@ -1850,7 +1857,7 @@ public final class ResourceLedger {
         private long restLow;
 
         static boolean below(long a, long b) {
-            return a + Long.MIN_VALUE < b + Long.MIN_VALUE;
+            return (a ^ 1L << 63) < (b ^ 1L << 63);
         }
 
         static int compare(long ah, long al, long bh, long bl) {
@@ -2031,7 +2038,9 @@ public final class ResourceLedger {
             for (int i = 0; i < 64 && filled != 56; i++) {
                 put(0);
             }
-            putLong(bits);
+            for (int shift = 56; shift >= 0; shift -= 8) {
+                put((int) (bits >>> shift));
+            }
         }
 
         long part(int i) {
@@ -2044,22 +2053,14 @@ public final class ResourceLedger {
             }
         }
 
-        private static int turn(int x, int by) {
-            return x >>> by | x << (32 - by);
-        }
-
-        private void spread() {
+        private void mix() {
             for (int t = 16; t < 64; t++) {
                 int x = w[t - 15];
                 int y = w[t - 2];
-                int s0 = turn(x, 7) ^ turn(x, 18) ^ x >>> 3;
-                int s1 = turn(y, 17) ^ turn(y, 19) ^ y >>> 10;
+                int s0 = Integer.rotateRight(x, 7) ^ Integer.rotateRight(x, 18) ^ x >>> 3;
+                int s1 = Integer.rotateRight(y, 17) ^ Integer.rotateRight(y, 19) ^ y >>> 10;
                 w[t] = w[t - 16] + s0 + w[t - 7] + s1;
             }
-        }
-
-        private void mix() {
-            spread();
             int a = words[0];
             int b = words[1];
             int c = words[2];
@@ -2069,8 +2070,10 @@ public final class ResourceLedger {
             int g = words[6];
             int h = words[7];
             for (int t = 0; t < 64; t++) {
-                int x = h + (turn(e, 6) ^ turn(e, 11) ^ turn(e, 25)) + (e & f ^ ~e & g) + K[t] + w[t];
-                int y = (turn(a, 2) ^ turn(a, 13) ^ turn(a, 22)) + (a & b ^ a & c ^ b & c);
+                int x = Integer.rotateRight(e, 6) ^ Integer.rotateRight(e, 11) ^ Integer.rotateRight(e, 25);
+                x += h + (e & f ^ ~e & g) + K[t] + w[t];
+                int y = Integer.rotateRight(a, 2) ^ Integer.rotateRight(a, 13) ^ Integer.rotateRight(a, 22);
+                y += a & b ^ a & c ^ b & c;
                 h = g;
                 g = f;
                 f = e;
@@ -2501,7 +2504,7 @@ public final class ResourceLedger {
         boolean fits() {
             int places = state.placeCount();
             for (int e = 0; e < count; e++) {
-                if (kind[e] == RESOURCE && isThere[e] && heap.sizeOf(node[e], 0) > SIZE_MOST) {
+                if (kind[e] == RESOURCE && isThere[e] && heap.sizeOf(node[e]) > SIZE_MOST) {
                     return false;
                 }
                 places += (isThere[e] ? 1 : 0) - (wasThere[e] ? 1 : 0);
@@ -2530,8 +2533,7 @@ public final class ResourceLedger {
         private void storeResource(int e) {
             int slot = state.slotFor(address[e], module[e], structure[e]);
             if (slot >= 0) {
-                int from = slot * SIZE_MOST;
-                state.nodeCount[slot] = heap.store(node[e], state, from, 0) - from;
+                state.nodeCount[slot] = heap.store(node[e], state, slot);
             }
         }
     }
@@ -2624,7 +2626,9 @@ public final class ResourceLedger {
             functions[top] = f;
             nexts[top] = 0;
             depths[top] = 0;
-            Arrays.fill(locals, top * LOCALS_MOST, (top + 1) * LOCALS_MOST, 0);
+            for (int k = 0; k < LOCALS_MOST; k++) {
+                locals[top * LOCALS_MOST + k] = 0;
+            }
         }
 
         private void push(int node) {
@@ -2700,6 +2704,8 @@ public final class ResourceLedger {
                 reckon(op);
             } else if (op <= 51) {
                 keep(op, p.number, a);
+            } else if (op == 59) {
+                hash();
             } else {
                 lineUp(op, p.at(where + 2));
             }
@@ -2779,8 +2785,8 @@ public final class ResourceLedger {
         }
 
         private void pushCopy(int v) {
-            if (pay(heap.sizeOf(v, 0))) {
-                push(heap.copyOf(v, 0));
+            if (pay(heap.sizeOf(v))) {
+                push(heap.copyOf(v));
             }
         }
 
@@ -2982,10 +2988,10 @@ public final class ResourceLedger {
         private void compare(int op, int a, int b) {
             boolean so;
             if (op <= 37) {
-                if (!pay(heap.sizeOf(a, 0) + heap.sizeOf(b, 0))) {
+                if (!pay(heap.sizeOf(a) + heap.sizeOf(b))) {
                     return;
                 }
-                so = heap.alike(a, b, 0) == (op == 36);
+                so = heap.areAlike(a, b) == (op == 36);
             } else {
                 int order = Wide.compare(heap.high[a], heap.low[a], heap.high[b], heap.low[b]);
                 so = op == 38 ? order < 0 : op == 39 ? order <= 0 : op == 40 ? order > 0 : order >= 0;
@@ -3005,7 +3011,7 @@ public final class ResourceLedger {
                 end(ERROR, 3);
                 return;
             }
-            if (!pay(op == 47 ? 10 + heap.sizeOf(v, 0) : 10)) {
+            if (!pay(op == 47 ? 10 + heap.sizeOf(v) : 10)) {
                 return;
             }
             if (op == 47) {
@@ -3026,10 +3032,6 @@ public final class ResourceLedger {
                 if (pay(count)) {
                     gather(VECTOR, count);
                 }
-                return;
-            }
-            if (op == 59) {
-                hash(pop());
                 return;
             }
             int above = op == 53 || op == 57 ? 0 : op == 58 ? 2 : 1;
@@ -3090,7 +3092,8 @@ public final class ResourceLedger {
             push(reference);
         }
 
-        private void hash(int vector) {
+        private void hash() {
+            int vector = pop();
             int length = (int) Math.min(heap.high[vector], VECTOR_MOST);
             if (!pay(32 + length)) {
                 return;
