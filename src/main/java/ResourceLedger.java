@@ -2699,7 +2699,13 @@ public final class ResourceLedger {
             } else if (op == 22) {
                 scatter(p.fieldCount(a));
             } else if (op == 23) {
-                enter(p, a);
+                int home = p.functionColumn(a, Program.FUNCTION_HOME);
+                int number = p.functionColumn(a, Program.FUNCTION_NUMBER);
+                if (home == 0) {
+                    useCoin(number);
+                } else {
+                    enter(home, number);
+                }
             } else if (op <= 44) {
                 reckon(op);
             } else if (op <= 51) {
@@ -2834,26 +2840,20 @@ public final class ResourceLedger {
             depths[top] = first + count;
         }
 
-        private void enter(Program p, int f) {
-            int home = p.functionColumn(f, Program.FUNCTION_HOME);
-            int g = p.functionColumn(f, Program.FUNCTION_NUMBER);
-            if (home == 0) {
-                useCoin(g);
-                return;
-            }
-            Program other = state.findProgram(home);
-            if (other == null || top + 1 >= FRAMES_MOST
-                    || journal.ask(Journal.MODULE, 0, home, 0) < 0) {
+        private void enter(int home, int f) {
+            Program p = state.findProgram(home);
+            // A function's own module was asked for when it was entered, so this counts others only.
+            if (p == null || top + 1 >= FRAMES_MOST || journal.ask(Journal.MODULE, 0, home, 0) < 0) {
                 end(ERROR, 4);
                 return;
             }
             if (!pay(5)) {
                 return;
             }
-            int count = Math.min(other.takes(g), depths[top]);
+            int count = Math.min(p.takes(f), depths[top]);
             int from = top * STACK_MOST + depths[top] - count;
             depths[top] -= count;
-            pushFrame(other, g);
+            pushFrame(p, f);
             System.arraycopy(stack, from, locals, top * LOCALS_MOST, count);
         }
 
