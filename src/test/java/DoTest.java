@@ -286,6 +286,9 @@ final class DoTest {
                 + " " + (d[31] & 255);
             once(want, "long", "byte byte byte byte", "*byte long", code.toString(), "long:" + n);
         }
+        byte[] d = MessageDigest.getInstance("SHA-256").digest(new byte[] {9, 8, -1});
+        once("DONE gas 50 " + (d[0] & 255), "", "byte", "*byte",
+            "byte 9; byte 8; byte 255; vector 1 3; digest; store 0; lend 0; long 0; element 1; read; ret");
     }
 
     private static void branches() {

@@ -189,8 +189,14 @@ final class FaceTest {
         Check.due("the refused one", bench.tell(2), "REFUSED 2 gas 0");
         Check.due("begin", x.begin(), 4);
         Check.due("none there", x.told(0, 0), ResourceLedger.BAD);
+        Check.due("no code there", x.code(2), 0);
         x.call(1, 3, 100, 7, 0);
-        Check.due("begin drops what waits", x.begin(), 1);
+        x.call(1, 3, 100, 7, 0);
+        x.call(1, 3, 100, 7, 0);
+        for (int t = 0; t < 4; t++) {
+            Check.due("nothing of an earlier block", x.code(t) + x.result(t, 0, 0) + x.result(t, 0, 2), 0);
+        }
+        Check.due("begin drops what waits", x.begin(), 3);
         Check.due("it was not done", x.account(1, 1), 3);
         Check.due("nothing waits then", x.execute(), ResourceLedger.NO);
     }

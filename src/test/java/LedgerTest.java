@@ -347,24 +347,29 @@ final class LedgerTest {
     private static void twentyFourPlaces() {
         Bench bench = new Bench();
         bench.publish(new Assembly(5).function(1, "", "", "", "ret"));
-        StringBuilder most = new StringBuilder("sender; call 3; pop; sender; has 0; pop; call 4; call 4; ");
+        bench.publish(new Assembly(9).function(1, "", "", "", "ret"));
+        // Own functions are 0 to 4: 5 tells a balance, 6 is module 5's, 7 module 9's.
+        StringBuilder most = new StringBuilder("sender; call 5; pop; sender; has 0; pop; call 6; call 6; ");
         for (int i = 0; i < 20; i++) {
             // Ten accounts and ten resources, each twice.
-            String row = i % 2 == 0 ? "addr " + (100 + i) + "; call 3; pop; " : "addr " + (100 + i) + "; has 0; pop; ";
+            String row = "addr " + (100 + i) + (i % 2 == 0 ? "; call 5; pop; " : "; has 0; pop; ");
             most.append(row).append(row);
         }
-        bench.publish(new Assembly(7).structure(15, "long")
-            .foreignFunction(0, 5, 1, "addr", "long").foreignFunction(5, 0, 1, "", "")
+        bench.publish(new Assembly(7).structure(15, "long").foreignFunction(0, 5, 1, "addr", "long")
+            .foreignFunction(5, 0, 1, "", "").foreignFunction(9, 0, 1, "", "")
             .function(6, "", "", "", most + "ret")
-            .function(6, "", "", "", most + "addr 100; has 0; pop; ret")
-            .function(6, "", "", "", most + "long 1; pack 0; put 0; sender; borrow 0; pop; call 4; ret"));
-        // sender, module; sender's resource, module 5, twenty more.
-        String done = bench.run(7, 0);
-        Check.due("24", done.startsWith("DONE"), true);
+            .function(6, "", "", "", most + "long 1; pack 0; put 0; sender; borrow 0; pop; call 6; ret")
+            .function(6, "", "", "", "call 0; addr 100; has 0; pop; ret")
+            .function(6, "", "", "", "call 0; addr 101; call 5; pop; ret")
+            .function(6, "", "", "", "call 0; call 7; ret"));
+        // Sender, module; the sender's resource, module 5, and twenty more.
+        Check.due("24", bench.run(7, 0).startsWith("DONE"), true);
         int used = bench.ledger.told(0, 1);
-        Check.due("no 25th", bench.run(7, 2).startsWith("DONE"), true);
-        // The address and the 1 of the instruction are paid by then.
-        Check.due("a 25th", bench.run(7, 1), "ERROR 4 gas " + (used - 1 + 2));
+        Check.due("no 25th", bench.run(7, 1).startsWith("DONE"), true);
+        // The call's 6, and behind it what was there before and the instruction's 1 are paid.
+        Check.due("a resource as the 25th", bench.run(7, 2), "ERROR 4 gas " + (6 + used + 2));
+        Check.due("an account as the 25th", bench.run(7, 3), "ERROR 4 gas " + (6 + used + 2));
+        Check.due("a module as the 25th", bench.run(7, 4), "ERROR 4 gas " + (6 + used + 1));
     }
 
     private static void allPlaces() {
