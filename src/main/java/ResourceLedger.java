@@ -2057,8 +2057,8 @@ public final class ResourceLedger {
             for (int t = 16; t < 64; t++) {
                 int x = w[t - 15];
                 int y = w[t - 2];
-                int s0 = Integer.rotateRight(x, 7) ^ Integer.rotateRight(x, 18) ^ x >>> 3;
-                int s1 = Integer.rotateRight(y, 17) ^ Integer.rotateRight(y, 19) ^ y >>> 10;
+                int s0 = (x >>> 7 | x << 25) ^ (x >>> 18 | x << 14) ^ x >>> 3;
+                int s1 = (y >>> 17 | y << 15) ^ (y >>> 19 | y << 13) ^ y >>> 10;
                 w[t] = w[t - 16] + s0 + w[t - 7] + s1;
             }
             int a = words[0];
@@ -2070,9 +2070,9 @@ public final class ResourceLedger {
             int g = words[6];
             int h = words[7];
             for (int t = 0; t < 64; t++) {
-                int x = Integer.rotateRight(e, 6) ^ Integer.rotateRight(e, 11) ^ Integer.rotateRight(e, 25);
+                int x = (e >>> 6 | e << 26) ^ (e >>> 11 | e << 21) ^ (e >>> 25 | e << 7);
                 x += h + (e & f ^ ~e & g) + K[t] + w[t];
-                int y = Integer.rotateRight(a, 2) ^ Integer.rotateRight(a, 13) ^ Integer.rotateRight(a, 22);
+                int y = (a >>> 2 | a << 30) ^ (a >>> 13 | a << 19) ^ (a >>> 22 | a << 10);
                 y += a & b ^ a & c ^ b & c;
                 h = g;
                 g = f;
@@ -2394,8 +2394,10 @@ public final class ResourceLedger {
             }
             for (int k = 0; k < 4; k++) {
                 long differs = keys[order[i] * 4 + k] ^ keys[order[i + 1] * 4 + k];
-                if (differs != 0) {
-                    return k * 64 + Long.numberOfLeadingZeros(differs);
+                for (int bit = 0; bit < 64 && differs != 0; bit++) {
+                    if (differs << bit < 0) {
+                        return k * 64 + bit;
+                    }
                 }
             }
             return BITS;
