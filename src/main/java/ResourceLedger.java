@@ -2267,11 +2267,14 @@ public final class ResourceLedger {
     /** The root of digests over all places of a state. */
     private static final class Tree {
         private static final int BITS = 256;
+        // A place's row: its KEY, then its kind, its address, its module and structure.
+        private static final int KEY = 4;
+        private static final int ROW = 7;
 
         final long[] top = new long[4];
         boolean stale;
         private final Digest digest = new Digest();
-        private final long[] keys = new long[PLACES_MOST * 4];
+        private final long[] rows = new long[PLACES_MOST * ROW];
         private final long[] leaves = new long[PLACES_MOST * 4];
         private final long[] value = new long[4];
         private final int[] order = new int[PLACES_MOST];
@@ -2289,6 +2292,7 @@ public final class ResourceLedger {
             gatherAccounts(state);
             gatherModules(state);
             gatherResources(state);
+            leaveOutDoubles();
             waitingCount = 0;
             for (int i = 0; i < count; i++) {
                 climb(i);
@@ -2305,9 +2309,9 @@ public final class ResourceLedger {
                 digest.putLong(state.sequence[a]);
                 keepValue();
                 digest.start();
-                digest.put(1);
+                digest.put(Journal.ACCOUNT);
                 digest.putLong(state.accountAddress[a]);
-                addPlace();
+                addPlace(Journal.ACCOUNT, state.accountAddress[a], 0, 0);
             }
         }
 
@@ -2320,10 +2324,10 @@ public final class ResourceLedger {
                 }
                 keepValue();
                 digest.start();
-                digest.put(2);
+                digest.put(Journal.MODULE);
                 digest.put(p.number >>> 8);
                 digest.put(p.number);
-                addPlace();
+                addPlace(Journal.MODULE, 0, p.number, 0);
             }
         }
 
@@ -2339,12 +2343,13 @@ public final class ResourceLedger {
                 }
                 keepValue();
                 digest.start();
-                digest.put(3);
+                digest.put(Journal.RESOURCE);
                 digest.putLong(state.resourceAddress[r]);
                 digest.put(state.resourceModule[r] >>> 8);
                 digest.put(state.resourceModule[r]);
                 digest.put(state.resourceStructure[r]);
-                addPlace();
+                addPlace(Journal.RESOURCE, state.resourceAddress[r], state.resourceModule[r],
+                    state.resourceStructure[r]);
             }
         }
 
@@ -2353,20 +2358,23 @@ public final class ResourceLedger {
             digest.copyTo(value, 0);
         }
 
-        /** The key is what the digest was given; the place comes where its key belongs in order. */
-        private void addPlace() {
+        /** The KEY is what the digest was given; the place comes where its row belongs in order. */
+        private void addPlace(int kind, long address, int module, int structure) {
             digest.finish();
             if (count >= PLACES_MOST) {
                 return;
             }
-            int from = count * 4;
-            digest.copyTo(keys, from);
+            int row = count * ROW;
+            digest.copyTo(rows, row);
+            rows[row + KEY] = kind;
+            rows[row + KEY + 1] = address;
+            rows[row + KEY + 2] = (long) module << 8 | structure;
             digest.start();
             digest.put(0);
-            digest.putLongs(keys, from);
+            digest.putLongs(rows, row);
             digest.putLongs(value, 0);
             digest.finish();
-            digest.copyTo(leaves, from);
+            digest.copyTo(leaves, count * 4);
             int i = count;
             while (i > 0 && isBelow(count, order[i - 1])) {
                 order[i] = order[i - 1];
@@ -2377,9 +2385,9 @@ public final class ResourceLedger {
         }
 
         private boolean isBelow(int a, int b) {
-            for (int k = 0; k < 4; k++) {
-                long x = keys[a * 4 + k];
-                long y = keys[b * 4 + k];
+            for (int k = 0; k < ROW; k++) {
+                long x = rows[a * ROW + k];
+                long y = rows[b * ROW + k];
                 if (x != y) {
                     return Wide.below(x, y);
                 }
@@ -2387,13 +2395,22 @@ public final class ResourceLedger {
             return false;
         }
 
-        /** In how many bits the keys at i and i + 1 in order agree; -1 when one is missing. */
-        private int agreement(int i) {
-            if (i < 0 || i + 1 >= count) {
-                return -1;
+        /** Of places with one KEY just the least one counts, which is the first of them in order. */
+        private void leaveOutDoubles() {
+            int kept = 0;
+            for (int i = 0; i < count; i++) {
+                if (kept == 0 || firstDifference(order[kept - 1], order[i]) < BITS) {
+                    order[kept] = order[i];
+                    kept++;
+                }
             }
-            for (int k = 0; k < 4; k++) {
-                long differs = keys[order[i] * 4 + k] ^ keys[order[i + 1] * 4 + k];
+            count = kept;
+        }
+
+        /** The first bit in which two places' KEYS differ; BITS when they have one KEY. */
+        private int firstDifference(int a, int b) {
+            for (int k = 0; k < KEY; k++) {
+                long differs = rows[a * ROW + k] ^ rows[b * ROW + k];
                 for (int bit = 0; bit < 64 && differs != 0; bit++) {
                     if (differs << bit < 0) {
                         return k * 64 + bit;
@@ -2403,14 +2420,23 @@ public final class ResourceLedger {
             return BITS;
         }
 
+        /** The level at which the KEYS at i and i + 1 in order have parted; 0 when one is missing. */
+        private int parting(int i) {
+            if (i < 0 || i + 1 >= count) {
+                return 0;
+            }
+            // Doubles are left out, so KEYS part at their last bit at the latest: climb stays within it.
+            return Math.min(firstDifference(order[i], order[i + 1]) + 1, BITS);
+        }
+
         /** From the level where key i is alone up to where it meets the next key. */
         private void climb(int i) {
-            int key = order[i] * 4;
-            int up = agreement(i) + 1;
-            int level = Math.max(agreement(i - 1) + 1, up);
-            System.arraycopy(leaves, key, now, 0, 4);
+            int row = order[i] * ROW;
+            int up = parting(i);
+            int level = Math.max(parting(i - 1), up);
+            System.arraycopy(leaves, order[i] * 4, now, 0, 4);
             for (; level > up; level--) {
-                long bit = keys[key + (level - 1) / 64] >>> (63 - (level - 1) % 64) & 1;
+                long bit = rows[row + (level - 1) / 64] >>> (63 - (level - 1) % 64) & 1;
                 boolean left = bit != 0 && waitingCount > 0 && waitingLevel[waitingCount - 1] == level;
                 digest.start();
                 digest.put(1);

@@ -73,6 +73,15 @@ final class Bench {
         return word.startsWith("-") ? Long.parseLong(word) : Long.parseUnsignedLong(word);
     }
 
+    /** The BYTES of a resource; none when there is no such one. */
+    byte[] stored(long address, int module, int structure) {
+        byte[] row = new byte[Math.max(ledger.resource(address, module, structure), 0)];
+        for (int i = 0; i < row.length; i++) {
+            row[i] = (byte) ledger.byteOf(i);
+        }
+        return row;
+    }
+
     /** Outcome, code (but when DONE), gas, and the results' lower halves (wides: both). */
     String tell(int t) {
         StringJoiner text = new StringJoiner(" ");

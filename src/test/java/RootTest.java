@@ -1,11 +1,10 @@
 import java.nio.ByteBuffer;
-import java.security.MessageDigest;
-import java.security.NoSuchAlgorithmException;
 import java.util.ArrayList;
 import java.util.List;
 
-/** Promise 19: the root, reckoned here by the document's words from what the ledger tells. */
+/** Promise 19: the root, against the document's words from what the ledger tells. */
 final class RootTest {
+    private final RootModel model = new RootModel();
     private final Bench bench = new Bench();
     private final List<Long> addresses = new ArrayList<>(List.of(1L, 2L));
     private final List<byte[]> modules = new ArrayList<>();
@@ -13,19 +12,23 @@ final class RootTest {
     private RootTest() {
     }
 
-    public static void main(String[] args) throws NoSuchAlgorithmException {
-        Check.due("no places", new ResourceLedger(1).root(0), 0);
+    public static void main(String[] args) {
         ResourceLedger one = new ResourceLedger(1);
-        one.mint(-5, 77);
-        byte[] leaf = digest(bytes(0), digest(bytes(1), longs(-5)), digest(longs(77, 0)));
         for (int i = 0; i < 4; i++) {
-            Check.due("one account", one.root(i), ByteBuffer.wrap(leaf).getLong(8 * i));
+            Check.due("no places", one.root(i), 0);
         }
+        one.mint(-5, 77);
+        ByteBuffer leaf = new RootModel().root(List.of(RootModel.account(-5, 77, 0)));
+        for (int i = 0; i < 4; i++) {
+            Check.due("one account", one.root(i), leaf.getLong(8 * i));
+        }
+        Check.due("no number -1", one.root(-1), 0);
+        Check.due("no number 4", one.root(4), 0);
         new RootTest().grow();
         Check.end();
     }
 
-    private void grow() throws NoSuchAlgorithmException {
+    private void grow() {
         look("two accounts");
         publish(new Assembly(300).structure(12, "long *byte").element("byte")
             .function(6, "long byte", "", "", "move 0; copy 1; move 1; vector 0 2; pack 0; put 0; ret")
@@ -64,68 +67,23 @@ final class RootTest {
         modules.add(module.toBytes());
     }
 
-    private void look(String what) throws NoSuchAlgorithmException {
+    private void look(String what) {
         ResourceLedger x = bench.ledger;
-        List<byte[][]> places = new ArrayList<>();
+        List<RootModel.Place> places = new ArrayList<>();
         for (long a : addresses) {
-            places.add(new byte[][] {digest(bytes(1), longs(a)), digest(longs(x.account(a, 0), x.account(a, 1)))});
-            byte[] stored = resource(a);
+            places.add(RootModel.account(a, x.account(a, 0), x.account(a, 1)));
+            byte[] stored = bench.stored(a, 300, 0);
             if (stored.length > 0) {
-                places.add(new byte[][] {digest(bytes(3), longs(a), bytes(1, 44, 0)), digest(stored)});
+                places.add(RootModel.resource(a, 300, 0, stored));
             }
         }
         for (byte[] module : modules) {
-            places.add(new byte[][] {digest(bytes(2, module[4], module[5])), digest(module)});
+            places.add(RootModel.module(module));
         }
         Check.due(what + ": places", x.places(0), places.size());
-        ByteBuffer want = ByteBuffer.wrap(hash(places, 0));
+        ByteBuffer want = model.root(places);
         for (int i = 0; i < 4; i++) {
             Check.due(what + ": root " + i, x.root(i), want.getLong(8 * i));
         }
-    }
-
-    private byte[] resource(long address) {
-        int length = bench.ledger.resource(address, 300, 0);
-        byte[] row = new byte[Math.max(length, 0)];
-        for (int i = 0; i < row.length; i++) {
-            row[i] = (byte) bench.ledger.byteOf(i);
-        }
-        return row;
-    }
-
-    private static byte[] hash(List<byte[][]> places, int level) throws NoSuchAlgorithmException {
-        if (places.isEmpty()) {
-            return new byte[32];
-        }
-        if (places.size() == 1) {
-            return digest(bytes(0), places.get(0)[0], places.get(0)[1]);
-        }
-        List<byte[][]> left = new ArrayList<>();
-        List<byte[][]> right = new ArrayList<>();
-        for (byte[][] place : places) {
-            boolean one = (place[0][level / 8] >> (7 - level % 8) & 1) == 1;
-            (one ? right : left).add(place);
-        }
-        return digest(bytes(1), hash(left, level + 1), hash(right, level + 1));
-    }
-
-    private static byte[] digest(byte[]... rows) throws NoSuchAlgorithmException {
-        MessageDigest all = MessageDigest.getInstance("SHA-256");
-        for (byte[] row : rows) {
-            all.update(row);
-        }
-        return all.digest();
-    }
-
-    private static byte[] bytes(int... numbers) {
-        return Assembly.bytes(numbers);
-    }
-
-    private static byte[] longs(long... numbers) {
-        ByteBuffer row = ByteBuffer.allocate(8 * numbers.length);
-        for (long n : numbers) {
-            row.putLong(n);
-        }
-        return row.array();
     }
 }
