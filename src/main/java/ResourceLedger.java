@@ -2268,7 +2268,7 @@ public final class ResourceLedger {
     private static final class Tree {
         private static final int BITS = 256;
         // A place's row: its KEY, then its kind, its address, its module and structure.
-        private static final int KEY = 4;
+        private static final int KEY_ROW = 4;
         private static final int ROW = 7;
 
         final long[] top = new long[4];
@@ -2366,9 +2366,9 @@ public final class ResourceLedger {
             }
             int row = count * ROW;
             digest.copyTo(rows, row);
-            rows[row + KEY] = kind;
-            rows[row + KEY + 1] = address;
-            rows[row + KEY + 2] = (long) module << 8 | structure;
+            rows[row + KEY_ROW] = kind;
+            rows[row + KEY_ROW + 1] = address;
+            rows[row + KEY_ROW + 2] = (long) module << 8 | structure;
             digest.start();
             digest.put(0);
             digest.putLongs(rows, row);
@@ -2409,7 +2409,7 @@ public final class ResourceLedger {
 
         /** The first bit in which two places' KEYS differ; BITS when they have one KEY. */
         private int firstDifference(int a, int b) {
-            for (int k = 0; k < KEY; k++) {
+            for (int k = 0; k < KEY_ROW; k++) {
                 long differs = rows[a * ROW + k] ^ rows[b * ROW + k];
                 for (int bit = 0; bit < 64 && differs != 0; bit++) {
                     if (differs << bit < 0) {
