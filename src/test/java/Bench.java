@@ -82,6 +82,15 @@ final class Bench {
         return row;
     }
 
+    /** All that is told of the state, in one text: where two are alike, nothing has changed. */
+    String state() {
+        StringJoiner text = new StringJoiner(" ");
+        for (int i = 0; i < 4; i++) {
+            text.add(ledger.places(i) + "/" + ledger.coins(i) + "/" + ledger.root(i));
+        }
+        return text.toString();
+    }
+
     /** Outcome, code (but when DONE), gas, and the results' lower halves (wides: both). */
     String tell(int t) {
         StringJoiner text = new StringJoiner(" ");
