@@ -499,7 +499,7 @@ final class TapeEdgesTest {
         due("itself", part(STRUCTURES, many(1, 0, 1, 6, 0)), "FAULTY 14 7");
         due("itself in a vector", part(STRUCTURES, many(1, 0, 1, 7, 7, 7, 7, 6, 0)), "FAULTY 14 7");
         due("by its last field", part(STRUCTURES, Assembly.bytes(1, 0, 3, 1, 2, 6, 0)), "FAULTY 14 7");
-        // A row of 32: the last one holds the one that is told, none but those between contain themselves.
+        // Each one holds the next, and the last one an earlier: that is the first that contains itself.
         for (int first = 0; first < 32; first++) {
             byte[] row = Assembly.bytes(32);
             for (int s = 0; s < 32; s++) {
