@@ -202,6 +202,17 @@ final class AnsweringEdgesTest {
         Check.due("one of before is no more", x.code(1), 0);
         x.execute();
         Check.due("DONE where there was a code before", x.code(0) + " " + x.code(1), "0 2");
+        // The first one that was not done yet has none, though its row had one before; nor has one behind 32.
+        bench.run(7, 1);
+        x.begin();
+        x.call(1, 0, 100, 7, 0);
+        Check.due("not done yet, where there was a code before", x.code(0), 0);
+        for (int i = 1; i < 32; i++) {
+            x.call(1, 0, 100, 7, 0);
+        }
+        x.execute();
+        Check.due("the last of 32", x.code(31), 2);
+        Check.due("none behind 32", x.code(32) + x.result(32, 0, 0), 0);
     }
 
     /** "its lower 64 bits (what = 0) or upper ones (1) or its type (2)" */

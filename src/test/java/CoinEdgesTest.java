@@ -24,21 +24,23 @@ final class CoinEdgesTest {
     /**
      * Functions: 0 pays (from the sender to an address so much), 1 tells a coin of so much, 2 joins
      * two, 3 splits one, 4 tells a balance, 5 tells the sender's balance before, with a coin in
-     * hand, and when it came back, 6 keeps coins in a vault, 7 withdraws twice. Coins are S1.
+     * hand, and when it came back, 6 keeps coins in a vault, 7 withdraws twice, 8 takes
+     * the last coin out of the vault. Coins are S1.
      */
     private static Bench bench() {
         Bench bench = new Bench();
         Check.due("module", bench.publish(new Assembly(7).structure(12, "*S1").coin(1).element("S1")
-            .function(2, "addr long", "", "", "move 0; move 1; call 8; call 9; ret")
-            .function(2, "long", "long", "S1", "move 0; call 8; store 1; lend 1; call 10; sender; move 1; call 9; ret")
-            .function(2, "long long", "long", "S1", "move 0; call 8; move 1; call 8; call 11; store 2; lend 2; call 10; sender; move 2; call 9; ret")
-            .function(2, "long long", "long long", "S1 S1", "move 0; call 8; move 1; call 12; store 3; store 2; lend 2; call 10; lend 3; call 10; "
-                + "sender; move 2; call 9; sender; move 3; call 9; ret")
-            .function(2, "addr", "long", "", "move 0; call 13; ret")
-            .function(2, "long", "long long long", "S1", "sender; call 13; move 0; call 8; store 1; sender; call 13; sender; move 1; call 9; "
-                + "sender; call 13; ret")
-            .function(6, "long long", "", "", "move 0; call 8; move 1; call 8; vector 0 2; pack 0; put 0; ret")
-            .function(2, "long long", "", "", "sender; move 0; call 8; sender; move 1; call 8; call 9; call 9; ret")), "DONE");
+            .function(2, "addr long", "", "", "move 0; move 1; call 9; call 10; ret")
+            .function(2, "long", "long", "S1", "move 0; call 9; store 1; lend 1; call 11; sender; move 1; call 10; ret")
+            .function(2, "long long", "long", "S1", "move 0; call 9; move 1; call 9; call 12; store 2; lend 2; call 11; sender; move 2; call 10; ret")
+            .function(2, "long long", "long long", "S1 S1", "move 0; call 9; move 1; call 13; store 3; store 2; lend 2; call 11; lend 3; call 11; "
+                + "sender; move 2; call 10; sender; move 3; call 10; ret")
+            .function(2, "addr", "long", "", "move 0; call 14; ret")
+            .function(2, "long", "long long long", "S1", "sender; call 14; move 0; call 9; store 1; sender; call 14; sender; move 1; call 10; "
+                + "sender; call 14; ret")
+            .function(6, "long long", "", "", "move 0; call 9; move 1; call 9; vector 0 2; pack 0; put 0; ret")
+            .function(2, "long long", "", "", "sender; move 0; call 9; sender; move 1; call 9; call 10; call 10; ret")
+            .function(6, "", "", "", "sender; sender; borrow! 0; field! 0 0; last 0; call 10; ret")), "DONE");
         return bench;
     }
 
@@ -208,6 +210,13 @@ final class CoinEdgesTest {
         Check.due("the second one's last byte", bench.ledger.byteOf(17), 6);
         Check.due("a second vault", brief(bench.run(7, 6, "long:5", "long:6")), "ERROR 3");
         Check.due("in resources still", bench.ledger.coins(3), 11);
+        long before = bench.ledger.account(1, 0);
+        Check.due("the last one", bench.run(7, 8), "DONE gas 22");
+        Check.due("it came back", bench.ledger.account(1, 0), before + 6 - 22);
+        Check.due("in resources then", bench.ledger.coins(3), 5);
+        Check.due("the first one", brief(bench.run(7, 8)), "DONE");
+        Check.due("none in resources", bench.ledger.coins(3), 0);
+        Check.due("none is there", brief(bench.run(7, 8)), "ERROR 2");
         whole(bench);
     }
 }

@@ -16,10 +16,15 @@ final class DoEdgesTest {
         pushes();
         madeVectors();
         alike();
+        swapsOfOthers();
+        digests();
+        manyLocals();
+        unpackingAbove();
         writing();
         senders();
         frames();
         framesOfOthers();
+        placesOfOneFunction();
         placesOfCalls();
         placesThatAreNotNew();
         placesBeforeErrors();
@@ -159,6 +164,70 @@ final class DoEdgesTest {
         }
     }
 
+    /** "58 two elements change places": whatever they are. */
+    private static void swapsOfOthers() {
+        String[][] rows = {{"wide", "wide 1 2; ", "wide 3 4; "}, {"*wide", "wide 1 2; vector 1 1; ", "wide 5 6; wide 3 4; vector 1 2; "},
+            {"S0", "wide 1 2; pack 0; ", "wide 3 4; pack 0; "}, {"*wide", "vector 1 0; ", "wide 3 4; vector 1 1; "}};
+        for (String[] row : rows) {
+            Bench bench = new Bench();
+            String two = row[1] + row[2] + "vector 0 2; ";
+            Check.due("module", bench.publish(new Assembly(7).structure(7, "wide").element(row[0]).element("wide")
+                .function(2, "", "truth truth", "*" + row[0], two + "store 0; lend! 0; long 0; long 1; swap 0; copy 0; "
+                    + row[2] + row[1] + "vector 0 2; same; move 0; " + two + "same; ret")), "DONE");
+            Check.due("swap " + row[0], brief(bench.run(7, 0)), "DONE 1 0");
+        }
+    }
+
+    /** "59 the DIGEST of its bytes as 32 bytes": all of them. */
+    private static void digests() {
+        Bench bench = new Bench();
+        byte[] due = new RootModel().digest(new byte[20]);
+        bench.publish(new Assembly(7).element("byte")
+            .function(2, "long", "byte long", "*byte", "byte 0; ".repeat(20) + "vector 0 20; digest; store 1; lend 1; move 0; element 0; read; "
+                + "lend 1; length 0; ret"));
+        for (int i = 0; i < 32; i++) {
+            Check.due("byte " + i, brief(bench.run(7, 0, "long:" + i)), "DONE " + (due[i] & 255) + " 32");
+        }
+        Check.due("no byte 32", brief(bench.run(7, 0, "long:32")), "ERROR 2");
+    }
+
+    /** "A CALL of a function is a FRAME: its locals, a stack, the next instruction": 40 locals, each its own, in each frame. */
+    private static void manyLocals() {
+        StringBuilder set = new StringBuilder();
+        StringBuilder sum = new StringBuilder("long 0; ");
+        for (int k = 8; k < 40; k++) {
+            set.append("long ").append(k * k).append("; store ").append(k).append("; ");
+        }
+        for (int k = 0; k < 40; k++) {
+            sum.append("long 2; mul; copy ").append(k).append("; add; ");
+        }
+        Bench bench = new Bench();
+        String eight = "long long long long long long long long";
+        Check.due("locals", bench.publish(new Assembly(7)
+            .function(2, eight, "long long", "long ".repeat(32), set + "copy 7; copy 6; copy 5; copy 4; copy 3; copy 2; copy 1; copy 0; call 1; "
+                + sum + "ret")
+            .function(0, eight, "long", "long ".repeat(32), set.toString().replace("long ", "long 1") + sum + "ret")), "DONE");
+        long first = 0;
+        long second = 0;
+        for (int k = 0; k < 40; k++) {
+            first = 2 * first + (k < 8 ? k : k * k);
+            second = 2 * second + (k < 8 ? 7 - k : Long.parseLong("1" + k * k));
+        }
+        Check.due("in both frames", brief(bench.run(7, 0, "long:0", "long:1", "long:2", "long:3", "long:4", "long:5", "long:6", "long:7")),
+            "DONE " + second + " " + first);
+    }
+
+    /** What lies below on the stack stays where it is. */
+    private static void unpackingAbove() {
+        Bench bench = new Bench();
+        bench.publish(new Assembly(7).structure(7, "long long long").element("long")
+            .function(2, "", "byte byte long long long", "", "byte 1; byte 2; long 3; long 4; long 5; pack 0; unpack 0; ret")
+            .function(2, "", "byte byte long long long", "", "byte 1; byte 2; call 2; ret")
+            .function(0, "", "long long long", "", "long 3; long 4; long 5; pack 0; unpack 0; ret"));
+        Check.due("below it", brief(bench.run(7, 0)), "DONE 1 2 3 4 5");
+        Check.due("below a call", brief(bench.run(7, 1)), "DONE 1 2 3 4 5");
+    }
+
     /** "19 what it points to becomes the value": a copy goes its own way, also deep inside. */
     private static void writing() {
         Bench bench = new Bench();
@@ -261,6 +330,24 @@ final class DoEdgesTest {
         }
         Check.due("module 7", bench.publish(module), "DONE");
         return bench;
+    }
+
+    /** "its sender's account and its module are the first two": in a function that calls no other. */
+    private static void placesOfOneFunction() {
+        StringBuilder many = new StringBuilder();
+        for (int i = 0; i < 22; i++) {
+            many.append("addr ").append(100 + i).append("; has 0; pop; ");
+        }
+        Bench bench = new Bench();
+        bench.publish(new Assembly(7).structure(15, "long").foreignFunction(0, 5, 1, "addr", "long")
+            .function(6, "", "", "", many + "ret")
+            .function(6, "", "", "", many + "addr 122; has 0; pop; ret")
+            .function(6, "", "", "", many + "addr 122; call 4; pop; ret")
+            .function(6, "", "", "", many + "sender; call 4; pop; ret"));
+        Check.due("22 and 2", bench.run(7, 0), "DONE gas " + (22 * 13 + 1));
+        Check.due("23 and 2", bench.run(7, 1), "ERROR 4 gas " + (22 * 13 + 2));
+        Check.due("an account besides", bench.run(7, 2), "ERROR 4 gas " + (22 * 13 + 2));
+        Check.due("the sender's account", brief(bench.run(7, 3)).startsWith("DONE"), true);
     }
 
     /** "a CALL that asks for more than 24 different PLACES ..: at the 25th, behind the instruction's 1 and before its other gas" */

@@ -16,7 +16,9 @@ final class LookEdgesTest {
         originsOfResources();
         lentLocals();
         orderAtLocals();
+        keeping();
         sole();
+        soleOfLocals();
         soleOfCalls();
         insideOfFreeze();
         insideOfParts();
@@ -30,6 +32,7 @@ final class LookEdgesTest {
         comingBackWithReferences();
         notComeTo();
         places();
+        otherOperands();
         Check.end();
     }
 
@@ -96,6 +99,9 @@ final class LookEdgesTest {
                 look(k == j ? "6 5" : "DONE", eight, further, set + "lend! " + k + "; move " + j + "; " + END);
                 // The same when it is kept in the last local.
                 look(k == j ? "6 6" : "DONE", eight, further, set + "lend! " + k + "; store 39; copy " + j + "; " + END);
+                look(k == j ? "6 5" : "DONE", eight, further, set + "lend! " + k + "; lend " + j + "; " + END);
+                look(k == j ? "6 5" : "DONE", eight, further, set + "lend " + k + "; lend! " + j + "; " + END);
+                look(k == j ? "6 6" : "DONE", eight, further, set + "lend " + k + "; long 1; store " + j + "; " + END);
             }
         }
         String all = "long ".repeat(32);
@@ -197,6 +203,28 @@ final class LookEdgesTest {
         look("5 2", "S0 S0", "", "move 0; store 1; copy 0");
     }
 
+    /** "(A reference keeps its origins and whether it is inside.)": by 11, 12 and 13. */
+    private static void keeping() {
+        // Local 1 is inside and has local 0's origin; it comes into local 2 as it was.
+        String inside = "copy 0; call 7; store 1; ";
+        for (String op : new String[] {"copy 1; store 2; move 1; pop; ", "move 1; store 2; nothing; nothing; "}) {
+            look("6 9", "&!long", "&!long &!long", inside + op + "long 5; copy 0; write");
+            look("DONE", "&!long", "&!long &!long", inside + op + "long 5; move 2; write; " + END);
+            look("DONE", "&!long", "&!long &!long", inside + op + "move 2; pop; long 5; copy 0; write; " + END);
+        }
+        // One that is not inside stays so.
+        String whole = "copy 0; nothing; store 1; ";
+        for (String op : new String[] {"copy 1; store 2; move 1; pop; ", "move 1; store 2; nothing; nothing; "}) {
+            look("DONE", "&!long", "&!long &!long", whole + op + "long 5; copy 0; write; " + END);
+        }
+        // Its origins: the local that it came from may not go.
+        look("6 5", "long", "&long &long", "lend 0; store 1; copy 1; store 2; nothing; move 0");
+        look("6 5", "long", "&long &long", "lend 0; store 1; move 1; store 2; nothing; move 0");
+        look("DONE", "long", "&long &long", "lend 0; store 1; move 1; store 2; move 2; pop; move 0; " + END);
+        // A value that was stored over one that is inside is what it is itself.
+        look("DONE", "&!long", "&!long", inside + "copy 0; store 1; long 5; copy 0; write; " + END);
+    }
+
     /** Another reference to the longs that local 0 may write, each with its type. */
     private static final String[] OTHERS = {"copy 0", "copy 0; freeze", "copy 0; long 0; element! 0", "copy 0; long 0; element 0",
         "copy 1", "copy 1; freeze", "copy 1; long 0; element! 0"};
@@ -229,6 +257,21 @@ final class LookEdgesTest {
         look("6 4", "&!S0", "", "copy 0; field! 0 0; copy 0; field! 0 1; last 0");
         // "4 without drop; 6 when it is not sole"
         look("4 4", "&!S1 S1", "", "copy 0; freeze; move 1; copy 0; write");
+    }
+
+    /** Each local counts: the first and the last hold the other reference. */
+    private static void soleOfLocals() {
+        for (int k : new int[] {0, 1, 31, 39}) {
+            String[] locals = new String[40];
+            java.util.Arrays.fill(locals, "long");
+            locals[k] = "&long";
+            locals[20] = "&!long";
+            String taken = String.join(" ", java.util.Arrays.copyOf(locals, 8));
+            String further = String.join(" ", java.util.Arrays.copyOfRange(locals, 8, 40));
+            String lend = "long 1; store 10; lend! 10; store 20; copy 20; freeze; store " + k + "; ";
+            look("6 9", taken, further, lend + "long 5; copy 20; write; " + END);
+            look("DONE", taken, further, lend + "move " + k + "; pop; long 5; copy 20; write; " + END);
+        }
     }
 
     /** "23 .. 6 when a writing one of these is not sole (each other one of these counts as inside for that)" */
@@ -299,6 +342,8 @@ final class LookEdgesTest {
         look("DONE", "", "", "sender; borrow 0; pop; call 2; ret");
         look("DONE", "", "&S0", "sender; borrow 0; store 0; move 0; pop; call 2; ret");
         look("DONE", "", "", "sender; borrow! 0; field! 0 0; call 7; " + END);
+        // One that is gone has none, wherever it stands.
+        look("DONE", "long ".repeat(8), "&long ".repeat(32), "call 2; lend 0; call 3; " + END);
         // Origins below 48 are fine: also the last of what was taken, and the last local.
         look("DONE", "long ".repeat(7) + "&long", "", "copy 7; call 3; copy 7; call 2; " + END);
         look("DONE", "long ".repeat(8), "long ".repeat(32), "long 1; store 39; lend 39; call 2; lend 39; call 3; " + END);
@@ -434,6 +479,12 @@ final class LookEdgesTest {
         look("6 9", "truth &!long", "&!long", first + ask);
         look("6 9", "truth &!long", "&!long", second + ask);
         look("DONE", "truth &!long", "&!long", neither + ask);
+        // The first local, too; and one that is gone has no origin, not even that of the first local.
+        String zero = "long 1; store 1; long 1; store 2; lend! 1; store 0; yes; goif 12; move 0; pop; lend! 2; store 0; ";
+        look("6 12", "", "&!long long long", zero + "copy 1");
+        look("6 12", "", "&!long long long", zero + "copy 2");
+        look("DONE", "long", "&!long", "lend! 0; store 1; yes; goif 6; move 1; pop; move 0; " + END);
+        look("DONE", "long", "&!long", "yes; goif 4; lend! 0; store 1; move 0; " + END);
         // It may be made whole again behind that.
         look("DONE", "truth &!long", "&!long", first + "copy 1; store 2; " + ask);
     }
@@ -474,6 +525,8 @@ final class LookEdgesTest {
         look("DONE", "&!long", "&!long", "copy 0; call 7; store 1; move 1; call 7; store 1; go 3");
         look("DONE", "&!long", "&!long", "copy 0; call 7; store 1; copy 0; store 1; go 3");
         look("9 5", "&!long", "&!long", "copy 0; store 1; copy 0; call 7; store 1; go 2");
+        // What is no reference has no origins: it may come from anywhere.
+        look("DONE", "long long", "long", "copy 0; store 2; copy 1; store 2; copy 0; store 1; go 2");
         // Gone for j: a reference has drop, so it may come with any origins, also inside.
         look("DONE", "&!long", "&!long", "nothing; copy 0; call 7; store 1; go 0");
         // The last local counts as the first.
@@ -512,8 +565,43 @@ final class LookEdgesTest {
             .function(0, "", "", "", "yes; goif 1023; " + "nothing; ".repeat(1021) + "ret")), "DONE");
         Check.due("with a stack there", new Bench().publish(new Assembly(7)
             .function(0, "", "", "", "yes; goif 1023; " + "nothing; ".repeat(1020) + "yes; ret")), "FAULTY 38 1023");
+        laterFunctions();
         // Functions in their order, the first fault of the first one that has any.
         Check.due("the second function", new Bench().publish(new Assembly(7).function(0, "", "", "", "ret")
             .function(0, "", "", "", "ret; ret").function(0, "", "", "", "pop")), "FAULTY 40 1025");
+    }
+
+    /** Each function is looked at for itself, also behind one that was FAULTY. */
+    private static void laterFunctions() {
+        String sole = "copy 0; store 1; long 5; copy 0; write; ret";
+        String loop = "go 2; nothing; go 1";
+        // The first one leaves local 1 inside, and has been come to at 2 by a branch.
+        String first = "copy 0; goif 3; nothing; copy 1; call 0; store 2; ret";
+        Check.due("inside in another function", new Bench().publish(new Assembly(7)
+            .function(0, "&!long", "&!long", "", "move 0; ret").function(0, "&!long", "", "&!long", "copy 0; call 0; store 1; ret")
+            .function(0, "&!long", "", "&!long", sole)), "DONE");
+        Check.due("come to in another function", new Bench().publish(new Assembly(7)
+            .function(0, "&!long", "&!long", "", "move 0; ret").function(0, "truth &!long", "", "&!long", first)
+            .function(0, "", "", "", "go 1; go 2; ret").function(0, "", "", "", loop)), "FAULTY 40 3073");
+        Check.due("gone in another function", new Bench().publish(new Assembly(7)
+            .function(0, "truth long", "", "", "copy 0; goif 4; move 1; pop; nothing; ret")
+            .function(0, "truth long", "", "", "copy 0; goif 4; nothing; nothing; copy 1; pop; ret")), "DONE");
+        Bench bench = new Bench();
+        for (String code : new String[] {"yes; yes; not; add", "copy 0", "long 1; ret", loop}) {
+            Check.due("FAULTY", bench.publish(new Assembly(7).function(0, "", "", "long", code)).startsWith("FAULTY"), true);
+        }
+        Check.due("behind those", bench.publish(new Assembly(7).function(0, "", "", "long", "long 1; store 0; yes; goif 4; ret")), "DONE");
+        // A structure that contained itself in one that was FAULTY does not in another.
+        Check.due("a round", bench.publish(new Assembly(8).structure(0, "S1").structure(0, "S0")), "FAULTY 14 7");
+        Check.due("no round", bench.publish(new Assembly(8).structure(0, "S1").structure(0, "long")), "DONE");
+    }
+
+    /** Operands are no branches, but those of 2, 3 and 4. */
+    private static void otherOperands() {
+        // The operand of 5 and the byte behind it would lead to 0, where local 1 is there.
+        look("DONE", "truth long", "", "nothing; move 1; pop; byte 0; pop; long 1; store 1; go 0");
+        // The two bytes behind a RETURN are 1 and 35: they would lead to 291, where local 1 is there.
+        look("DONE", "truth long", "", "copy 0; goif 7; copy 0; goif 8; move 1; pop; ret; ret; nothing; yes; goif 291; "
+            + "nothing; ".repeat(280) + "copy 1; pop; ret");
     }
 }
