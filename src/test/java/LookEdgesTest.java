@@ -580,6 +580,9 @@ final class LookEdgesTest {
         Check.due("inside in another function", new Bench().publish(new Assembly(7)
             .function(0, "&!long", "&!long", "", "move 0; ret").function(0, "&!long", "", "&!long", "copy 0; call 0; store 1; ret")
             .function(0, "&!long", "", "&!long", sole)), "DONE");
+        Check.due("inside in another function, as taken", new Bench().publish(new Assembly(7)
+            .function(0, "&!long", "&!long", "", "move 0; ret").function(0, "&!long", "", "", "copy 0; call 0; store 0; ret")
+            .function(0, "&!long", "", "", "long 5; copy 0; write; ret")), "DONE");
         Check.due("come to in another function", new Bench().publish(new Assembly(7)
             .function(0, "&!long", "&!long", "", "move 0; ret").function(0, "truth &!long", "", "&!long", first)
             .function(0, "", "", "", "go 1; go 2; ret").function(0, "", "", "", loop)), "FAULTY 40 3073");

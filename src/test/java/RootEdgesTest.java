@@ -41,6 +41,10 @@ final class RootEdgesTest {
     private static void noKeysOneKeyMore() {
         ResourceLedger x = new ResourceLedger(1);
         due("no keys", x, new ArrayList<>());
+        // Also when something was done, and all of it REFUSED.
+        x.call(1, 0, 10, 0, 0);
+        Check.due("REFUSED", x.execute(), 0);
+        due("no keys behind a block", x, new ArrayList<>());
         x.mint(1, 0);
         due("one key", x, accounts(x, 1));
         x.mint(1, 5);
