@@ -1,16 +1,9 @@
-import java.io.File;
-import java.io.IOException;
-import java.net.URL;
-import java.net.URLClassLoader;
 import java.nio.ByteBuffer;
-import java.nio.file.Files;
-import java.nio.file.Path;
 import java.util.ArrayList;
 import java.util.Arrays;
 import java.util.Collections;
 import java.util.List;
 import java.util.Random;
-import javax.tools.ToolProvider;
 
 /**
  * Promise 19, where places have one KEY: of these just the least one counts. No calls are known
@@ -43,7 +36,7 @@ public final class SameKeyTest {
 
     public static void main(String[] args) throws Exception {
         if (args.length == 0) {
-            runWeak();
+            Altered.run("SameKeyTest", WEAK, SameKeyTest::weaken);
             return;
         }
         // Which bits of a KEY's eight words are kept: none, the first, the last, both, some of each.
@@ -58,46 +51,13 @@ public final class SameKeyTest {
         Check.end();
     }
 
-    /** This test once more, among classes of which ResourceLedger alone is another one. */
-    private static void runWeak() throws Exception {
-        Path out = Files.createTempDirectory("weak");
-        compileWeak(out);
-        removeAtEnd(out);
-        List<URL> urls = new ArrayList<>();
-        urls.add(out.toUri().toURL());
-        for (String part : System.getProperty("java.class.path").split(File.pathSeparator)) {
-            urls.add(Path.of(part).toUri().toURL());
-        }
-        URL[] all = urls.toArray(new URL[0]);
-        try (URLClassLoader classes = new URLClassLoader(all, ClassLoader.getPlatformClassLoader())) {
-            Class<?> again = classes.loadClass("SameKeyTest");
-            again.getMethod("main", String[].class).invoke(null, (Object) new String[] {WEAK});
-        }
-    }
-
-    private static void compileWeak(Path out) throws IOException {
-        String text = Files.readString(Path.of("src/main/java/ResourceLedger.java"));
+    /** The end of the digest, with which it keeps only some bits of a KEY's words. */
+    private static String weaken(String text) {
         String finish = "void finish() {\n";
-        if (text.indexOf(finish) < 0 || text.indexOf(finish) != text.lastIndexOf(finish)) {
-            throw new IllegalStateException("The digest has no end that could be made weak.");
-        }
         String weak = "void finish() { boolean isShort = total < " + RootModel.SHORT_ROW + "; finishWhole();"
             + " for (int i = 0; i < 8 && isShort; i++) { words[i] &= Integer.getInteger(\"" + WEAK + "\" + i); } }\n"
             + "void finishWhole() {\n";
-        Path file = out.resolve("ResourceLedger.java");
-        Files.writeString(file, text.replace(finish, weak));
-        int ended = ToolProvider.getSystemJavaCompiler().run(null, null, null, "-d", out.toString(), file.toString());
-        if (ended != 0) {
-            throw new IllegalStateException("The class with a weak digest does not compile.");
-        }
-    }
-
-    private static void removeAtEnd(Path out) {
-        // What is told last is removed first, so the directory comes before its files.
-        out.toFile().deleteOnExit();
-        for (File file : out.toFile().listFiles()) {
-            file.deleteOnExit();
-        }
+        return Altered.replaceOnce(text, finish, weak);
     }
 
     /** A few accounts, so that modules and resources have KEYS without an account. */
