@@ -54,8 +54,13 @@ final class RoomTest {
 
     private static void work(ResourceLedger x, byte[] module) {
         x.mint(1, 1L << 40);
-        for (byte b : module) {
-            x.type(b, 1);
+        for (int i = 0; i < module.length; i += 4) {
+            int n = Math.min(4, module.length - i);
+            int word = 0;
+            for (int k = 0; k < n; k++) {
+                word = word << 8 | module[i + k] & 255;
+            }
+            x.type(word, n);
         }
         x.publish(1, 0, 2000);
         x.execute();
