@@ -1658,7 +1658,10 @@ public final class ResourceLedger {
         }
     }
 
-    /** The values of one call as trees of nodes; a reference is a node that names another. */
+    /**
+     * The values of one call as trees of nodes; a reference is a node that names another. Node 0 stands
+     * for what lacks. Kinds are looked at before a node is taken for another one's number.
+     */
     private static final class Heap {
         // Nearly every node costs gas; beside those there are only arguments and loaded resources.
         private static final int NODES = LIMIT_MOST + 24 * SIZE_MOST + 64;
@@ -1676,6 +1679,9 @@ public final class ResourceLedger {
 
         void clear() {
             used = 1;
+            kind[0] = 0;
+            high[0] = 0;
+            low[0] = 0;
         }
 
         int make(int k, long upper, long lower) {
@@ -1695,6 +1701,10 @@ public final class ResourceLedger {
         }
 
         void prepend(int node, int child) {
+            if (child == 0 || !holdsOthers(kind[node])) {
+                slips++;
+                return;
+            }
             next[child] = (int) low[node];
             low[node] = child;
             high[node]++;
@@ -1702,11 +1712,11 @@ public final class ResourceLedger {
 
         /** Takes the last child away. */
         int detach(int node) {
-            int child = (int) low[node];
-            if (high[node] <= 0 || child == 0) {
+            if (!holdsOthers(kind[node]) || high[node] <= 0 || low[node] == 0) {
                 slips++;
                 return 0;
             }
+            int child = (int) low[node];
             low[node] = next[child];
             high[node]--;
             next[child] = 0;
@@ -1714,6 +1724,10 @@ public final class ResourceLedger {
         }
 
         int child(int node, long i) {
+            if (!holdsOthers(kind[node]) || i < 0 || i >= high[node]) {
+                slips++;
+                return 0;
+            }
             int c = (int) low[node];
             for (long k = high[node] - 1; k > i && c != 0; k--) {
                 c = next[c];
@@ -1723,12 +1737,18 @@ public final class ResourceLedger {
 
         /** What node to held becomes what node from held; where it hangs stays. */
         void assign(int to, int from) {
+            if (to == 0) {
+                return;
+            }
             kind[to] = kind[from];
             low[to] = low[from];
             high[to] = high[from];
         }
 
         void swap(int a, int b) {
+            if (b == 0) {
+                return;
+            }
             byte k = kind[a];
             long lower = low[a];
             long upper = high[a];
@@ -1757,7 +1777,8 @@ public final class ResourceLedger {
             int size = 1;
             if (holdsOthers(kind[node]) && depth < DEPTH_MOST) {
                 int c = (int) low[node];
-                for (long k = 0; k < high[node] && c != 0; k++) {
+                // Nobody can pay for more, so there is no need to know how much more.
+                for (long k = 0; k < high[node] && c != 0 && size <= LIMIT_MOST; k++) {
                     size += sizeAt(c, depth + 1);
                     c = next[c];
                 }
@@ -1767,7 +1788,7 @@ public final class ResourceLedger {
 
         private int copyAt(int node, int depth) {
             int made = make(kind[node], high[node], low[node]);
-            if (!holdsOthers(kind[node]) || depth >= DEPTH_MOST) {
+            if (made == 0 || !holdsOthers(kind[node]) || depth >= DEPTH_MOST) {
                 return made;
             }
             int c = (int) low[node];
@@ -2677,6 +2698,14 @@ public final class ResourceLedger {
             return stack[top * STACK_MOST + depths[top]];
         }
 
+        private int popOf(int kind) {
+            int v = pop();
+            if (heap.kind[v] != kind) {
+                slips++;
+            }
+            return v;
+        }
+
         /** What lies so far below the topmost one. */
         private int peek(int below) {
             int i = depths[top] - 1 - below;
@@ -2751,21 +2780,28 @@ public final class ResourceLedger {
             } else if (op == 1) {
                 giveBack();
             } else if (op == 45) {
-                end(ABORTED, heap.low[pop()]);
-            } else if (op == 2 || (heap.low[pop()] == 1) == (op == 3)) {
+                end(ABORTED, heap.low[popOf(LONG)]);
+            } else if (op == 2 || (heap.low[popOf(TRUTH)] == 1) == (op == 3)) {
                 nexts[top] = to;
             }
         }
 
         private void giveBack() {
-            int count = programs[top].gives(functions[top]);
-            if (depths[top] != count) {
+            Program p = programs[top];
+            int f = functions[top];
+            if (depths[top] != p.gives(f)) {
                 slips++;
+            }
+            for (int k = 0; k < p.localCount(f); k++) {
+                if (locals[top * LOCALS_MOST + k] != 0 && (p.abilities(p.localType(f, k)) & DROP) == 0) {
+                    slips++;
+                }
             }
             if (top == 0) {
                 running = false;
                 return;
             }
+            int count = depths[top];
             int from = top * STACK_MOST;
             top--;
             for (int k = 0; k < count; k++) {
@@ -2856,7 +2892,7 @@ public final class ResourceLedger {
         }
 
         private void scatter(int count) {
-            int whole = pop();
+            int whole = popOf(STRUCTURE);
             int first = depths[top];
             if (first + count > STACK_MOST || heap.high[whole] != count) {
                 slips++;
@@ -2877,6 +2913,9 @@ public final class ResourceLedger {
             }
             if (!pay(5)) {
                 return;
+            }
+            if (p.takes(f) > depths[top]) {
+                slips++;
             }
             int count = Math.min(p.takes(f), depths[top]);
             int from = top * STACK_MOST + depths[top] - count;
@@ -2901,19 +2940,19 @@ public final class ResourceLedger {
             if (f == 0) {
                 withdraw(n);
             } else if (f == 1) {
-                pop();
-                pop();
+                popOf(COIN);
+                popOf(ADDRESS);
                 journal.isThere[entry] = true;
                 journal.balance[entry] += n;
             } else if (f == 2) {
                 pushNumber(LONG, 0, heap.low[target(pop())]);
             } else if (f == 3) {
-                pop();
-                pushNumber(COIN, 0, heap.low[pop()] + n);
+                popOf(COIN);
+                pushNumber(COIN, 0, heap.low[popOf(COIN)] + n);
             } else if (f == 4) {
                 split(n);
             } else {
-                pop();
+                popOf(ADDRESS);
                 pushNumber(LONG, 0, journal.balance[entry]);
             }
         }
@@ -2924,14 +2963,14 @@ public final class ResourceLedger {
                 end(ABORTED, 1);
                 return;
             }
-            pop();
+            popOf(LONG);
             journal.balance[0] -= n;
             pushNumber(COIN, 0, n);
         }
 
         private void split(long n) {
-            pop();
-            long all = heap.low[pop()];
+            popOf(LONG);
+            long all = heap.low[popOf(COIN)];
             if (Wide.below(all, n)) {
                 end(ABORTED, 2);
                 return;
@@ -2942,29 +2981,32 @@ public final class ResourceLedger {
 
         private void reckon(int op) {
             if (op == 34) {
-                pushNumber(TRUTH, 0, 1 - heap.low[pop()]);
+                pushNumber(TRUTH, 0, 1 - heap.low[popOf(TRUTH)]);
                 return;
             }
-            int b = pop();
+            int b = op == 32 || op == 33 ? popOf(BYTE) : pop();
             if (op >= 42) {
                 wide.set(heap.high[b], heap.low[b]);
                 pushWide(op - 40);
                 return;
             }
-            int a = pop();
-            int kind = heap.kind[a];
+            int a = op == 32 || op == 33 ? pop() : popOf(heap.kind[b]);
             wide.set(heap.high[a], heap.low[a]);
             if (op >= 36) {
                 compare(op, a, b);
             } else if (op >= 32) {
-                shift(op == 32, heap.low[b], kind);
+                shift(op == 32, heap.low[b], heap.kind[a]);
             } else {
                 combine(op, heap.high[b], heap.low[b]);
-                pushWide(kind);
+                pushWide(heap.kind[a]);
             }
         }
 
         private void pushWide(int kind) {
+            if (kind < TRUTH || kind > WIDE) {
+                slips++;
+                return;
+            }
             if (kind != TRUTH && !wide.fits(kind)) {
                 end(ERROR, 1);
                 return;
@@ -3028,7 +3070,7 @@ public final class ResourceLedger {
         }
 
         private void keep(int op, int module, int structure) {
-            int v = pop();
+            int v = popOf(op == 47 ? STRUCTURE : ADDRESS);
             long address = op == 47 ? t.sender : heap.low[v];
             int e = journal.ask(Journal.RESOURCE, address, module, structure);
             if (e < 0) {
@@ -3065,6 +3107,9 @@ public final class ResourceLedger {
             int above = op == 53 || op == 57 ? 0 : op == 58 ? 2 : 1;
             int reference = peek(above);
             int vector = target(reference);
+            if (heap.kind[vector] != VECTOR) {
+                slips++;
+            }
             long length = heap.high[vector];
             if (op == 53) {
                 pop();
@@ -3099,8 +3144,8 @@ public final class ResourceLedger {
         }
 
         private void exchange(int vector, long length) {
-            long i = heap.low[pop()];
-            long j = heap.low[pop()];
+            long i = heap.low[popOf(LONG)];
+            long j = heap.low[popOf(LONG)];
             if (!Wide.below(i, length) || !Wide.below(j, length)) {
                 end(ERROR, 2);
                 return;
@@ -3110,7 +3155,7 @@ public final class ResourceLedger {
         }
 
         private void borrowElement(int vector, long length) {
-            long i = heap.low[pop()];
+            long i = heap.low[popOf(LONG)];
             if (!Wide.below(i, length)) {
                 end(ERROR, 2);
                 return;
@@ -3122,6 +3167,10 @@ public final class ResourceLedger {
 
         private void hash() {
             int vector = pop();
+            if (heap.kind[vector] != VECTOR) {
+                slips++;
+                return;
+            }
             int length = (int) Math.min(heap.high[vector], VECTOR_MOST);
             if (!pay(32 + length)) {
                 return;

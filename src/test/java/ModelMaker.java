@@ -189,14 +189,18 @@ final class ModelMaker {
         return g;
     }
 
-    /** The module made latest, with something in it changed. */
+    /** The module made latest, with one or two things in it changed. */
     byte[] spoil() {
+        return spoil(1 + random.nextInt(2));
+    }
+
+    byte[] spoil(int times) {
         byte[] whole = encode(m);
         ModelModule made = m;
         m = new ModelModule(whole);
         try {
             m.read();
-            for (int k = 0; k <= random.nextInt(2); k++) {
+            for (int k = 0; k < times; k++) {
                 ModelModule.Function f = m.functions.get(random.nextInt(m.ownFunctions));
                 new ModelCode(random, m, f).spoil();
             }
