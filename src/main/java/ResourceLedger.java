@@ -626,7 +626,7 @@ public final class ResourceLedger {
         }
 
         long localType(int f, int k) {
-            return k < takes(f) ? takenType(f, k) : givenType(f, gives(f) + k - takes(f));
+            return typeAt(functionColumn(f, LISTS) + (k < takes(f) ? k : gives(f) + k));
         }
 
         int fieldCount(int s) {
@@ -1701,7 +1701,7 @@ public final class ResourceLedger {
         }
 
         void prepend(int node, int child) {
-            if (child == 0 || !holdsOthers(kind[node])) {
+            if (child == 0 || (kind[node] != STRUCTURE && kind[node] != VECTOR)) {
                 slips++;
                 return;
             }
