@@ -1660,7 +1660,7 @@ public final class ResourceLedger {
 
     /**
      * The values of one call as trees of nodes; a reference is a node that names another. Node 0 stands
-     * for what lacks. Kinds are looked at before a node is taken for another one's number.
+     * for what lacks, and stays empty. Kinds are looked at before a half is taken for a node's number.
      */
     private static final class Heap {
         // Nearly every node costs gas; beside those there are only arguments and loaded resources.
@@ -1679,9 +1679,6 @@ public final class ResourceLedger {
 
         void clear() {
             used = 1;
-            kind[0] = 0;
-            high[0] = 0;
-            low[0] = 0;
         }
 
         int make(int k, long upper, long lower) {
@@ -2612,7 +2609,6 @@ public final class ResourceLedger {
         private boolean running;
         private int outcome;
         private long code;
-        private int slips;
 
         Machine(State s) {
             state = s;
@@ -2620,7 +2616,7 @@ public final class ResourceLedger {
         }
 
         int slipCount() {
-            return slips + heap.slips;
+            return heap.slips;
         }
 
         void run(Transaction transaction) {
@@ -2638,7 +2634,10 @@ public final class ResourceLedger {
             }
             // Each step costs gas, so the limit ends it.
             for (int n = 0; n <= LIMIT_MOST && running; n++) {
+                int before = heap.slips;
                 step();
+                // An instruction slips once, however much is wrong with it.
+                heap.slips = Math.min(heap.slips, before + 1);
             }
             if (outcome == DONE && !journal.fits()) {
                 end(ERROR, 4);
@@ -2682,7 +2681,7 @@ public final class ResourceLedger {
 
         private void push(int node) {
             if (depths[top] >= STACK_MOST) {
-                slips++;
+                heap.slips++;
                 return;
             }
             stack[top * STACK_MOST + depths[top]] = node;
@@ -2691,7 +2690,7 @@ public final class ResourceLedger {
 
         private int pop() {
             if (depths[top] == 0) {
-                slips++;
+                heap.slips++;
                 return 0;
             }
             depths[top]--;
@@ -2701,7 +2700,7 @@ public final class ResourceLedger {
         private int popOf(int kind) {
             int v = pop();
             if (heap.kind[v] != kind) {
-                slips++;
+                heap.slips++;
             }
             return v;
         }
@@ -2710,7 +2709,7 @@ public final class ResourceLedger {
         private int peek(int below) {
             int i = depths[top] - 1 - below;
             if (i < 0) {
-                slips++;
+                heap.slips++;
                 return 0;
             }
             return stack[top * STACK_MOST + i];
@@ -2722,7 +2721,7 @@ public final class ResourceLedger {
 
         private int target(int reference) {
             if (heap.kind[reference] != REFERENCE || heap.low[reference] == 0) {
-                slips++;
+                heap.slips++;
                 return 0;
             }
             return (int) heap.low[reference];
@@ -2732,7 +2731,7 @@ public final class ResourceLedger {
             Program p = programs[top];
             int i = nexts[top];
             if (p == null || i >= p.instructions(functions[top])) {
-                slips++;
+                heap.slips++;
                 end(ERROR, 4);
                 return;
             }
@@ -2790,11 +2789,11 @@ public final class ResourceLedger {
             Program p = programs[top];
             int f = functions[top];
             if (depths[top] != p.gives(f)) {
-                slips++;
+                heap.slips++;
             }
             for (int k = 0; k < p.localCount(f); k++) {
                 if (locals[top * LOCALS_MOST + k] != 0 && (p.abilities(p.localType(f, k)) & DROP) == 0) {
-                    slips++;
+                    heap.slips++;
                 }
             }
             if (top == 0) {
@@ -2842,7 +2841,7 @@ public final class ResourceLedger {
             }
             int v = locals[k];
             if (v == 0) {
-                slips++;
+                heap.slips++;
             }
             if (op == 11) {
                 pushCopy(v);
@@ -2880,7 +2879,7 @@ public final class ResourceLedger {
         private void gather(int kind, int count) {
             int first = depths[top] - count;
             if (first < 0) {
-                slips++;
+                heap.slips++;
                 return;
             }
             int whole = heap.make(kind, 0, 0);
@@ -2895,7 +2894,7 @@ public final class ResourceLedger {
             int whole = popOf(STRUCTURE);
             int first = depths[top];
             if (first + count > STACK_MOST || heap.high[whole] != count) {
-                slips++;
+                heap.slips++;
                 return;
             }
             for (int k = count - 1; k >= 0; k--) {
@@ -2915,7 +2914,7 @@ public final class ResourceLedger {
                 return;
             }
             if (p.takes(f) > depths[top]) {
-                slips++;
+                heap.slips++;
             }
             int count = Math.min(p.takes(f), depths[top]);
             int from = top * STACK_MOST + depths[top] - count;
@@ -3004,7 +3003,7 @@ public final class ResourceLedger {
 
         private void pushWide(int kind) {
             if (kind < TRUTH || kind > WIDE) {
-                slips++;
+                heap.slips++;
                 return;
             }
             if (kind != TRUTH && !wide.fits(kind)) {
@@ -3108,7 +3107,7 @@ public final class ResourceLedger {
             int reference = peek(above);
             int vector = target(reference);
             if (heap.kind[vector] != VECTOR) {
-                slips++;
+                heap.slips++;
             }
             long length = heap.high[vector];
             if (op == 53) {
@@ -3168,7 +3167,7 @@ public final class ResourceLedger {
         private void hash() {
             int vector = pop();
             if (heap.kind[vector] != VECTOR) {
-                slips++;
+                heap.slips++;
                 return;
             }
             int length = (int) Math.min(heap.high[vector], VECTOR_MOST);
